@@ -14,6 +14,8 @@ public final class LastTrick {
     private static final int ALL = 0, DROPPED = 1, BREACHED = 2;
     private static final int MOST_WAYS = 24, MOST_RANK = 64 * (MOST_CLUES + 1), MANY = 99;
     private static final int EVERY_SUIT = 0xFFFF, EVERY_CHAIR = 0x1111;
+    /** FOLLOW, so that each lets all that those ahead of it let. */
+    private static final int[] STRICTEST_FIRST = {2, 0, 1};
     /** Orders of three; the first two are those of two, the first one is that of one. */
     private static final int[] ORDERS = {0, 1, 2, 1, 0, 2, 0, 2, 1, 2, 0, 1, 1, 2, 0, 2, 1, 0};
     private static final int SURVEYED = 1, FEWEST_KNOWN = 2, DROPS_KNOWN = 4, TURNED_KNOWN = 8, OTHERS_KNOWN = 16;
@@ -526,18 +528,21 @@ public final class LastTrick {
 
     private int findOthers() {
         int bits = 0;
-        int number = 0;
         for (int trump = -1; trump < SUITS; trump++) {
-            for (int follow = 0; follow < 3; follow++) {
-                for (int leads = 0; leads < 2; leads++) {
-                    search.take(now);
-                    search.rules.trump = trump;
-                    search.rules.follow = follow;
-                    search.rules.leads = leads;
-                    if (search.findsOne()) {
-                        bits |= 1 << number;
+            for (int leads = 0; leads < 2; leads++) {
+                boolean found = false;
+                for (int i = 0; i < STRICTEST_FIRST.length; i++) {
+                    int follow = STRICTEST_FIRST[i];
+                    if (!found) {
+                        search.take(now);
+                        search.rules.trump = trump;
+                        search.rules.follow = follow;
+                        search.rules.leads = leads;
+                        found = search.findsOne();
                     }
-                    number++;
+                    if (found) {
+                        bits |= 1 << 6 * (trump + 1) + 2 * follow + leads;
+                    }
                 }
             }
         }
