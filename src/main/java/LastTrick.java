@@ -8,7 +8,7 @@ public final class LastTrick {
     private static final int MOST_CHAIRS = 4, MOST_TRICKS = 4, ALL_CARDS = 16, MOST_PLACES = 12, SUITS = 4;
     private static final int MOST_UNSEEN = 3, MOST_CLUES = 6, MOST_BYTES = 80, FAULT = -20;
     private static final int MOST_SHEETS = 4, LANES = 3, MOST_ITEMS = 24, OTHER_GAMES = 30;
-    private static final int UNSEEN = -4;
+    private static final int UNSEEN = NONE;
     private static final int HELD = 0, LED = 1, EARLIER = 2, LACKED = 3;
     private static final int FREE = 1, FORCED = 2;
     private static final int ALL = 0, DROPPED = 1, BREACHED = 2;

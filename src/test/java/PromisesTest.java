@@ -157,7 +157,8 @@ public final class PromisesTest {
             "n2t1:s0s1-f0l2", "13", "n2t1:s0s1-f0l0l", "14", "n2t1:s0s1-f0l0k2", "15", "n2t1:s0s1-f0l0k0", "16",
             "n2t1:s0s1-f0l0k0b", "17", "n2t1:s0s1-f0l0k0b2", "17", "n2t1:s0s1-f0l0k0b-", "17",
             "n2t1:s0s1-f0l0k0b?s", "18", "n2t1:s0s1+df0l0k0b00", "19", " n 2 x", "2", "n  2 t 1 : s 0   s 0", "8",
-            " n 2  ", "2", "N2", "0", "n2t1:S0", "5"};
+            " n 2  ", "2", "N2", "0", "n2t1:S0", "5",
+            "s0s1-f0l0k0b?", "0", "n2s0s1-f0l0k0b?", "2", "n2ts0s1-f0l0k0b?", "3", "n2t1s0s1-f0l0k0b?", "4"};
         for (int i = 0; i < faults.length; i += 2) {
             due("game " + faults[i], game(x, faults[i]), -20 - Integer.parseInt(faults[i + 1]));
             due("no game", x.told(0), NOT);
@@ -195,7 +196,8 @@ public final class PromisesTest {
         String[] faults = {"", "0", ";", "1", ";;", "1", "s0s1h0h1", "8", "s0s1;", "5", "s0s1;h0", "7", "s0s1;h0;", "7",
             "s0s1;h0h1;", "9", "s0s1;h0h1s0", "9", "s0;s1h0h1", "2", "s0s1h0;h1", "6", "s0s0", "3", "s0s2", "3", "d0", "1",
             "s0x", "2", "s", "1", "sx", "1", "????", "3", "s0???;?", "6", "s0?;???", "6", "??;??", "4", "x", "0", "s0s1;h0h1x", "9",
-            "s 0 s 1 ; h 0 d", "8", "-", "0", "s0s1,", "4"};
+            "s 0 s 1 ; h 0 d", "8", "-", "0", "s0s1,", "4",
+            "s0s1s;h0h1", "5", "s0s1;h0h1s", "9", "s0s1;h0s", "8"};
         for (int i = 0; i < faults.length; i += 2) {
             due("table " + faults[i], table(x, faults[i]), -20 - Integer.parseInt(faults[i + 1]));
             due("no table", x.heap(0, -1), NOT);
