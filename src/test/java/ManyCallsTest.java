@@ -53,28 +53,15 @@ public final class ManyCallsTest {
         return r.nextInt(8) == 0 ? odd[r.nextInt(odd.length)] : r.nextInt(most + 1);
     }
 
-    private static int type(LastTrick x, String text) {
-        int size = 0;
-        for (int i = 0; i < text.length(); i += 8) {
-            String part = text.substring(i, Math.min(text.length(), i + 8));
-            long v = 0;
-            for (char c : part.toCharArray()) {
-                v = v << 8 | c;
-            }
-            size = x.type(v, part.length());
-        }
-        return size;
-    }
-
     private static long call(LastTrick x, int which, Random r) {
         switch (which) {
             case 0:
                 return x.type(r.nextLong() & 0x7F7F7F7F7F7F7F7FL, odd(r, 8));
             case 1:
-                type(x, TEXTS[r.nextInt(TEXTS.length)]);
+                Texts.type(x, TEXTS[r.nextInt(TEXTS.length)]);
                 return r.nextInt(3) == 0 ? x.game() : 0;
             case 2:
-                type(x, TABLES[r.nextInt(TABLES.length)]);
+                Texts.type(x, TABLES[r.nextInt(TABLES.length)]);
                 return x.table();
             case 3:
                 return x.told(odd(r, 7));
@@ -143,7 +130,7 @@ public final class ManyCallsTest {
             case 32:
                 return tellFirst(x, r);
             default:
-                type(x, TEXTS[r.nextInt(TEXTS.length)]);
+                Texts.type(x, TEXTS[r.nextInt(TEXTS.length)]);
                 return 0;
         }
     }
@@ -191,9 +178,9 @@ public final class ManyCallsTest {
             x = new LastTrick();
             made = bean.getThreadAllocatedBytes(Thread.currentThread().getId()) - before;
         }
-        type(x, TEXTS[3]);
+        Texts.type(x, TEXTS[3]);
         x.game();
-        type(x, ";;s0s1h0h1h2h3d0d1d2d3??;");
+        Texts.type(x, ";;s0s1h0h1h2h3d0d1d2d3??;");
         x.table();
         x.plays();
         long before = bean.getThreadAllocatedBytes(Thread.currentThread().getId());

@@ -352,19 +352,6 @@ public final class OracleTest {
         return "shdc".charAt(card / 4) + "" + card % 4;
     }
 
-    static int type(LastTrick x, String text) {
-        int size = 0;
-        for (int i = 0; i < text.length(); i += 8) {
-            String part = text.substring(i, Math.min(text.length(), i + 8));
-            long v = 0;
-            for (char c : part.toCharArray()) {
-                v = v << 8 | c;
-            }
-            size = x.type(v, part.length());
-        }
-        return size;
-    }
-
     private static String gameText(World w) {
         StringBuilder b = new StringBuilder("n" + w.chairs + "t" + w.tricks + ":");
         for (int card : w.pack) {
@@ -392,7 +379,7 @@ public final class OracleTest {
         Told made = randomPlay(w, r, r.nextInt(4) != 0);
         randomHeaps(w, r, made);
         LastTrick x = new LastTrick();
-        type(x, gameText(w));
+        Texts.type(x, gameText(w));
         due(seed, "game " + gameText(w), x.game(), w.pack.size());
         int unseen = 0;
         for (List<Integer> h : w.heaps) {
@@ -400,7 +387,7 @@ public final class OracleTest {
                 unseen += card < 0 ? 1 : 0;
             }
         }
-        type(x, tableText(w));
+        Texts.type(x, tableText(w));
         due(seed, "table " + tableText(w), x.table(), unseen);
         due(seed, "count 1", x.count(1), unseen);
         List<List<Integer>> packOrders = most > 8 ? null : new ArrayList<>();

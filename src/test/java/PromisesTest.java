@@ -48,26 +48,13 @@ public final class PromisesTest {
         }
     }
 
-    private static int type(LastTrick x, String text) {
-        int size = 0;
-        for (int i = 0; i < text.length(); i += 8) {
-            String part = text.substring(i, Math.min(text.length(), i + 8));
-            long v = 0;
-            for (char c : part.toCharArray()) {
-                v = v << 8 | c;
-            }
-            size = x.type(v, part.length());
-        }
-        return size;
-    }
-
     private static int game(LastTrick x, String text) {
-        type(x, text);
+        Texts.type(x, text);
         return x.game();
     }
 
     private static int table(LastTrick x, String text) {
-        type(x, text);
+        Texts.type(x, text);
         return x.table();
     }
 
@@ -189,7 +176,7 @@ public final class PromisesTest {
     private static void tables() {
         promise = 4;
         LastTrick x = new LastTrick();
-        type(x, "n2t1:s0s1-f0l0k0b?");
+        Texts.type(x, "n2t1:s0s1-f0l0k0b?");
         due("no game", x.table(), NOT);
         due("the tape stays", x.game(), 2);
         x = with("n2t2:s0s1h0h1-f0l0k0b?");
@@ -895,7 +882,7 @@ public final class PromisesTest {
         due("other now", x.plays(), 0);
         table(x, "??;h0h1");
         x.sheet(0, 2, 7);
-        type(x, "xyz");
+        Texts.type(x, "xyz");
         due("restore", x.restore(), 1);
         due("follow", x.told(4), 0);
         due("plays", x.plays(), 1);
