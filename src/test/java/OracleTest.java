@@ -10,6 +10,7 @@ import java.util.Random;
 public final class OracleTest {
     private static int wrong = 0;
     private static int asked = 0;
+    private static LastTrick used = new LastTrick();
 
     public static void main(String[] args) {
         for (int seed = 0; seed < 500; seed++) {
@@ -378,7 +379,9 @@ public final class OracleTest {
         World w = randomWorld(r, most);
         Told made = randomPlay(w, r, r.nextInt(4) != 0);
         randomHeaps(w, r, made);
-        LastTrick x = new LastTrick();
+        // every other world is told to an object that has seen another one
+        LastTrick x = seed % 2 == 0 ? new LastTrick() : used;
+        used = x;
         Texts.type(x, gameText(w));
         due(seed, "game " + gameText(w), x.game(), w.pack.size());
         int unseen = 0;

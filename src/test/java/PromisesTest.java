@@ -145,7 +145,8 @@ public final class PromisesTest {
             "n2t1:s0s1-f0l0k0b", "17", "n2t1:s0s1-f0l0k0b2", "17", "n2t1:s0s1-f0l0k0b-", "17",
             "n2t1:s0s1-f0l0k0b?s", "18", "n2t1:s0s1+df0l0k0b00", "19", " n 2 x", "2", "n  2 t 1 : s 0   s 0", "8",
             " n 2  ", "2", "N2", "0", "n2t1:S0", "5",
-            "s0s1-f0l0k0b?", "0", "n2s0s1-f0l0k0b?", "2", "n2ts0s1-f0l0k0b?", "3", "n2t1s0s1-f0l0k0b?", "4"};
+            "s0s1-f0l0k0b?", "0", "n2s0s1-f0l0k0b?", "2", "n2ts0s1-f0l0k0b?", "3", "n2t1s0s1-f0l0k0b?", "4",
+            "n2t1:s0s1-b?", "10", "n2t1:s0s1-f0b?", "12", "n2t1:s0s1-f0l0b?", "14", "n2t1:s0s1f0l0k0b?", "9"};
         for (int i = 0; i < faults.length; i += 2) {
             due("game " + faults[i], game(x, faults[i]), -20 - Integer.parseInt(faults[i + 1]));
             due("no game", x.told(0), NOT);
@@ -239,7 +240,8 @@ public final class PromisesTest {
         due("row", row(x, 0, "s0s1h0"), NONE);
         due("refused", x.set(4, 3), BAD);
         due("the row stays", x.count(2), 0);
-        int[][] good = {{3, 3}, {3, -1}, {3, 0}, {4, 1}, {4, 2}, {5, 1}, {6, 1}, {7, 2}, {7, -1}};
+        int[][] good = {{3, 3}, {3, -1}, {3, 0}, {4, 1}, {4, 2}, {4, 0}, {5, 1}, {5, 0}, {6, 1}, {6, 0},
+            {7, 0}, {7, 2}, {7, -1}};
         for (int[] g : good) {
             due("set", x.set(g[0], g[1]), 1);
             due("told", x.told(g[0]), g[1] < 0 ? NONE : g[1]);
@@ -285,6 +287,8 @@ public final class PromisesTest {
         promise = 8;
         LastTrick x = new LastTrick();
         due("no game", x.wins(0x3210, 0), NOT);
+        due("no game, four digits", x.wins(0xFFFF, 3), NOT);
+        due("no game, all 0", x.wins(0, 0), NOT);
         int[][] bad = {{-1, 0}, {0x10000, 0}, {0x3210, -1}, {0x3210, 4}, {LEAST, 0}, {MOST, 0}, {0x3210, MOST}};
         for (int[] b : bad) {
             due("wins", x.wins(b[0], b[1]), BAD);
@@ -469,6 +473,12 @@ public final class PromisesTest {
         x.clue(0, 0, 5, 0);
         x.clue(0, 1, 5, 0);
         due("no play", x.under(0, 0), 0);
+        x = with("n2t2:s0s1h0h1-f0l0k0b?", "s1s0?h0;");
+        table(x, "?s0;??");
+        table(x, "s1s0;?h1");
+        due("what lay there before does not count", x.under(1, 0), 1 << 4);
+        table(x, "??;h0h1");
+        due("other cards lack now", x.under(0, 0), 1 | 1 << 1);
     }
 
     private static void tricks() {
@@ -754,6 +764,7 @@ public final class PromisesTest {
         promise = 25;
         for (int place : new int[] {-1, 12, LEAST, MOST}) {
             due("falls", x.falls(place), BAD);
+            due("falls, no row", new LastTrick().falls(place), BAD);
         }
         due("no row", with("n2t2:s0s1s2s3-f0l0k0b?").falls(11), NOT);
         due("beyond", x.falls(4), BAD);
