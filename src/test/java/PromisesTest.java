@@ -146,7 +146,7 @@ public final class PromisesTest {
             "n2t1:s0s1-f0l0k0b?s", "18", "n2t1:s0s1+df0l0k0b00", "19", " n 2 x", "2", "n  2 t 1 : s 0   s 0", "8",
             " n 2  ", "2", "N2", "0", "n2t1:S0", "5",
             "s0s1-f0l0k0b?", "0", "n2s0s1-f0l0k0b?", "2", "n2ts0s1-f0l0k0b?", "3", "n2t1s0s1-f0l0k0b?", "4",
-            "n2t1:s0s1-b?", "10", "n2t1:s0s1-f0b?", "12", "n2t1:s0s1-f0l0b?", "14", "n2t1:s0s1f0l0k0b?", "9"};
+            "n2t1:s0s1-b?", "10", "n2t1:s0s1-f0b?", "12", "n2t1:s0s1-f0l0b?", "14", "n2t1:s0s1f0l0k0b?", "9", "n2t1:s0s1+f0l0k0b?", "10"};
         for (int i = 0; i < faults.length; i += 2) {
             due("game " + faults[i], game(x, faults[i]), -20 - Integer.parseInt(faults[i + 1]));
             due("no game", x.told(0), NOT);
@@ -964,5 +964,12 @@ public final class PromisesTest {
             x.item(1, lane, 0, kept[lane] & (lane == 0 ? -2 : 0));
             due("back", x.row(0, 1, lane, 0), NONE);
         }
+        x.sheet(1, 2, 2);
+        x.item(1, 2, 0, 1);
+        x.item(1, 2, 1, 1);
+        x.sheet(1, 2, 2);
+        due("new rows are 0 again: s0 twice", x.row(0, 1, 2, 0), 1);
+        x.item(1, 2, 0, 1);
+        due("s1, s0", x.row(0, 1, 2, 0), NONE);
     }
 }
