@@ -66,6 +66,7 @@ public final class LastTrick {
 
     public int table() {
         if (!now.rules.there) {
+            tape.clear();
             return NOT;
         }
         boolean read = tape.readTable(draft.heaps, now.rules);
@@ -294,7 +295,7 @@ public final class LastTrick {
     }
 
     public int others(int i) {
-        if (i < -1) {
+        if (i < -1 || i >= OTHER_GAMES) {
             return BAD;
         }
         if (!now.heaps.there) {
@@ -604,13 +605,11 @@ public final class LastTrick {
         }
 
         boolean readGame(Game game) {
-            squeeze();
             game.there = true;
             return readSize(game) && readPack(game) && readTrump(game) && readLaws(game) && readBegins(game) && ended();
         }
 
         boolean readTable(Table heaps, Game game) {
-            squeeze();
             heaps.clear();
             for (int chair = 0; chair < game.chairs; chair++) {
                 if (chair > 0 && !take(';')) {
@@ -623,24 +622,15 @@ public final class LastTrick {
             return ended() && heaps.total == game.cards();
         }
 
-        /** Blanks do not count in the place of a fault, so they go before anything is read. */
-        private void squeeze() {
-            int kept = 0;
-            for (int i = 0; i < size; i++) {
-                if (bytes[i] != ' ') {
-                    bytes[kept] = bytes[i];
-                    kept++;
-                }
-            }
-            size = kept;
-            at = 0;
-        }
-
         private boolean ended() {
-            return at == size;
+            return peek() < 0;
         }
 
+        /** The next byte that is no blank, -1 at the end; the reader then stands there, since no blank is at fault. */
         private int peek() {
+            while (at < size && bytes[at] == ' ') {
+                at++;
+            }
             return at < size ? bytes[at] : -1;
         }
 

@@ -546,7 +546,7 @@ public final class OracleTest {
         w.follow = follow;
         w.leads = leads;
         due(seed, "others", x.others(-1), others.size());
-        for (int i = 0; i <= 30; i++) {
+        for (int i = 0; i < 30; i++) {
             due(seed, "others " + i, x.others(i), i < others.size() ? others.get(i) : -4);
         }
     }

@@ -130,7 +130,7 @@ public final class PromisesTest {
         due("the last", x.type(0x20, 1), 80);
         due("full", x.type(0x20, 1), FULL);
         due("full, eight", x.type(0x2020202020202020L, 8), FULL);
-        due("blanks alone", x.game(), -20);
+        due("blanks alone", x.game(), -100);
         due("empty then", x.type(0x20, 1), 1);
     }
 
@@ -143,13 +143,18 @@ public final class PromisesTest {
             "n2t1:s0s1+-", "10", "n2t1:s0s1-g", "10", "n2t1:s0s1-f", "11", "n2t1:s0s1-f3", "11", "n2t1:s0s1-f0f", "12",
             "n2t1:s0s1-f0l2", "13", "n2t1:s0s1-f0l0l", "14", "n2t1:s0s1-f0l0k2", "15", "n2t1:s0s1-f0l0k0", "16",
             "n2t1:s0s1-f0l0k0b", "17", "n2t1:s0s1-f0l0k0b2", "17", "n2t1:s0s1-f0l0k0b-", "17",
-            "n2t1:s0s1-f0l0k0b?s", "18", "n2t1:s0s1+df0l0k0b00", "19", " n 2 x", "2", "n  2 t 1 : s 0   s 0", "8",
-            " n 2  ", "2", "N2", "0", "n2t1:S0", "5",
+            "n2t1:s0s1-f0l0k0b?s", "18", "n2t1:s0s1+df0l0k0b00", "19", " n 2 x", "5", "n  2 t 1 : s 0   s 0", "19",
+            " ", "1", "   x", "3", " n 2  ", "6", "n4t 4", "4", "N2", "0", "n2t1:S0", "5",
             "s0s1-f0l0k0b?", "0", "n2s0s1-f0l0k0b?", "2", "n2ts0s1-f0l0k0b?", "3", "n2t1s0s1-f0l0k0b?", "4",
             "n2t1:s0s1-b?", "10", "n2t1:s0s1-f0b?", "12", "n2t1:s0s1-f0l0b?", "14", "n2t1:s0s1f0l0k0b?", "9", "n2t1:s0s1+f0l0k0b?", "10"};
         for (int i = 0; i < faults.length; i += 2) {
-            due("game " + faults[i], game(x, faults[i]), -20 - Integer.parseInt(faults[i + 1]));
+            int place = Integer.parseInt(faults[i + 1]);
+            due("game " + faults[i], game(x, faults[i]), -20 - place);
             due("no game", x.told(0), NOT);
+            for (int blanks = 1; blanks <= 3; blanks++) {
+                String text = spread(faults[i], blanks);
+                due("game " + text, game(x, text), -20 - placeIn(text, blanks, faults[i], place));
+            }
         }
         due("the least", game(x, "n2t1:s0s1-f0l0k0b?"), 2);
         due("two of four", game(x, "n2t4:c3c2c1c0s0s1h2d2+df2l1k1b1"), 8);
@@ -179,16 +184,25 @@ public final class PromisesTest {
         LastTrick x = new LastTrick();
         Texts.type(x, "n2t1:s0s1-f0l0k0b?");
         due("no game", x.table(), NOT);
-        due("the tape stays", x.game(), 2);
+        due("the tape is empty", x.type('n', 1), 1);
+        due("no game still", x.table(), NOT);
+        due("nothing to read", x.game(), -20);
+        due("no game again", x.table(), NOT);
+        due("a game", game(x, "n2t1:s0s1-f0l0k0b?"), 2);
         x = with("n2t2:s0s1h0h1-f0l0k0b?");
         String[] faults = {"", "0", ";", "1", ";;", "1", "s0s1h0h1", "8", "s0s1;", "5", "s0s1;h0", "7", "s0s1;h0;", "7",
             "s0s1;h0h1;", "9", "s0s1;h0h1s0", "9", "s0;s1h0h1", "2", "s0s1h0;h1", "6", "s0s0", "3", "s0s2", "3", "d0", "1",
             "s0x", "2", "s", "1", "sx", "1", "????", "3", "s0???;?", "6", "s0?;???", "6", "??;??", "4", "x", "0", "s0s1;h0h1x", "9",
-            "s 0 s 1 ; h 0 d", "8", "-", "0", "s0s1,", "4",
+            "s 0 s 1 ; h 0 d", "15", " ", "1", "s0  ;s1h0h1", "4", "s0s1 ;h0h1 x", "11", "-", "0", "s0s1,", "4",
             "s0s1s;h0h1", "5", "s0s1;h0h1s", "9", "s0s1;h0s", "8"};
         for (int i = 0; i < faults.length; i += 2) {
-            due("table " + faults[i], table(x, faults[i]), -20 - Integer.parseInt(faults[i + 1]));
+            int place = Integer.parseInt(faults[i + 1]);
+            due("table " + faults[i], table(x, faults[i]), -20 - place);
             due("no table", x.heap(0, -1), NOT);
+            for (int blanks = 1; blanks <= 3; blanks++) {
+                String text = spread(faults[i], blanks);
+                due("table " + text, table(x, text), -20 - placeIn(text, blanks, faults[i], place));
+            }
         }
         due("a table", table(x, "s1s0;h0h1"), 0);
         due("a fault", table(x, "s1s0;h0h2"), -28);
@@ -202,6 +216,21 @@ public final class PromisesTest {
         due("another", table(x, "s0s1h0?;"), 1);
         due("clues stay", x.count(0), 1);
         due("the row stays", x.count(2), 1);
+    }
+
+    /** A text with blanks ahead of each byte, and behind the last one. */
+    private static String spread(String text, int blanks) {
+        String gap = " ".repeat(blanks);
+        StringBuilder b = new StringBuilder();
+        for (char c : text.toCharArray()) {
+            b.append(gap).append(c);
+        }
+        return b.append(gap).toString().substring(0, Math.min(80, (blanks + 1) * text.length() + blanks));
+    }
+
+    /** Where the byte at a place lies when a text is spread; the end lies behind all blanks. */
+    private static int placeIn(String spread, int blanks, String text, int place) {
+        return place < text.length() ? Math.min(spread.length(), (blanks + 1) * place + blanks) : spread.length();
     }
 
     private static void telling() {
@@ -609,7 +638,10 @@ public final class PromisesTest {
         LastTrick x = new LastTrick();
         due("bad", x.others(-2), BAD);
         due("bad", x.others(LEAST), BAD);
+        due("there are thirty", x.others(30), BAD);
+        due("there are thirty", x.others(MOST), BAD);
         due("no game", x.others(0), NOT);
+        due("no game, the last", x.others(29), NOT);
         x = with("n2t1:s0h1-f0l0k0b0");
         due("no table", x.others(-1), NOT);
         table(x, "s0h1;");
@@ -622,8 +654,9 @@ public final class PromisesTest {
             }
         }
         due("not so many", x.others(24), NONE);
-        due("not so many", x.others(30), NONE);
-        due("not so many", x.others(MOST), NONE);
+        due("not so many", x.others(29), NONE);
+        due("there are thirty", x.others(30), BAD);
+        due("there are thirty", x.others(MOST), BAD);
         x.set(3, 1);
         due("the game does not fit", x.plays(), 0);
         due("the others do", x.others(-1), 24);
