@@ -132,6 +132,13 @@ public final class PromisesTest {
         due("full, eight", x.type(0x2020202020202020L, 8), FULL);
         due("blanks alone", x.game(), -100);
         due("empty then", x.type(0x20, 1), 1);
+        due("no clue", x.clue(0, 0, 0, 0), NOT);
+        due("no law", x.set(4, 1), NOT);
+        due("no row", x.row(0, 0, 0, 0), NOT);
+        due("no others", x.others(-1), NOT);
+        due("no clues go", x.forget(), 0);
+        due("a sheet", x.sheet(0, 0, 4), 4);
+        due("other calls leave it", x.type(0x20, 1), 2);
     }
 
     private static void games() {
