@@ -16,4 +16,46 @@ final class Texts {
         }
         return size;
     }
+
+    static int game(LastTrick x, String text) {
+        type(x, text);
+        return x.game();
+    }
+
+    static int table(LastTrick x, String text) {
+        type(x, text);
+        return x.table();
+    }
+
+    /** A game and, unless it is null, a table. */
+    static void read(LastTrick x, String game, String table) {
+        game(x, game);
+        if (table != null) {
+            table(x, table);
+        }
+    }
+
+    /** Puts cards, told as in texts, on sheet 3, a sheet of bytes then, and tells them as a row. */
+    static int row(LastTrick x, int begins, String cards) {
+        int n = cards.length() / 2;
+        x.sheet(3, 0, n);
+        for (int i = 0; i < n; i++) {
+            x.item(3, 0, i, card(cards.substring(2 * i, 2 * i + 2)));
+        }
+        return x.row(begins, 3, 0, 0);
+    }
+
+    /** A text with other suits: those of "shdc" become those of names, one by one. */
+    static String renamed(String text, String names) {
+        StringBuilder b = new StringBuilder();
+        for (char c : text.toCharArray()) {
+            int suit = "shdc".indexOf(c);
+            b.append(suit < 0 ? c : names.charAt(suit));
+        }
+        return b.toString();
+    }
+
+    static int card(String name) {
+        return 4 * "shdc".indexOf(name.charAt(0)) + name.charAt(1) - '0';
+    }
 }

@@ -49,13 +49,11 @@ public final class PromisesTest {
     }
 
     private static int game(LastTrick x, String text) {
-        Texts.type(x, text);
-        return x.game();
+        return Texts.game(x, text);
     }
 
     private static int table(LastTrick x, String text) {
-        Texts.type(x, text);
-        return x.table();
+        return Texts.table(x, text);
     }
 
     private static LastTrick with(String game) {
@@ -76,14 +74,8 @@ public final class PromisesTest {
         return x;
     }
 
-    /** Puts cards, told as in texts, on a sheet of bytes and makes them the row. */
     private static int row(LastTrick x, int begins, String cards) {
-        int n = cards.length() / 2;
-        x.sheet(3, 0, n);
-        for (int i = 0; i < n; i++) {
-            x.item(3, 0, i, 4 * "shdc".indexOf(cards.charAt(2 * i)) + cards.charAt(2 * i + 1) - '0');
-        }
-        return x.row(begins, 3, 0, 0);
+        return Texts.row(x, begins, cards);
     }
 
     private static void newObject() {
