@@ -42,7 +42,12 @@ public final class BoundsOfPlaysTest extends Bounds {
         due("three tricks in any order", with(FOUR_SUITS, "s0h0d0c0s1h1d1c1s2h2d2c2;;;").plays(), 24 * 24 * 24);
         due("suits are followed", with("n4t1:s0h0d0c0-f0l0k1b?", ";s0h0d0c0;;").plays(), 24);
         // chair 0 leads h3, and who plays c0 behind it has no h1: 4 and 4; or it leads c0: 6 and 6
-        due("who did not follow", with("n3t2:h3c0h0s0h1d0-f0l0k1b0", "h3c0h0s0h1d0;;").plays(), 20);
+        LastTrick x = with("n3t2:h3c0h0s0h1d0-f0l0k1b0", "h3c0h0s0h1d0;;");
+        due("who did not follow", x.plays(), 20);
+        x.clue(0, 1, 12, 0);
+        x.clue(0, 0, 0, 0);
+        due("chair 1 did not, so chair 2 has h1", x.plays(), 1);
+        due("chair 2 has h1", x.sure(5), 2);
         due("and three unseen", with(FOUR_SUITS, "?h0d0c0?h1d1c1?h2d2c2;;;").plays(), 6 * 24 * 24 * 24);
     }
 

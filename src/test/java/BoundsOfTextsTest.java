@@ -13,6 +13,7 @@ public final class BoundsOfTextsTest extends Bounds {
         packs();
         laws();
         ends();
+        pieces();
         blanks();
         whatGamesEnd();
         faultsOfGames();
@@ -215,6 +216,37 @@ public final class BoundsOfTextsTest extends Bounds {
         }
     }
 
+    /** Pieces that are left out, though an object that has read a game before could know them. */
+    private static void pieces() {
+        sentence(0, "FAULTS: -20 less the place of the first byte (blanks do not count) that can't stand there");
+        String[] pieces = {"n2", "t2", ":", "s0s1h0h1", "+d", "f0", "l0", "k0", "b?"};
+        String whole = String.join("", pieces);
+        int place = 0;
+        for (int i = 0; i < pieces.length; i++) {
+            int behind = place;
+            for (int j = i; j < pieces.length; j++) {
+                behind += pieces[j].length();
+                String text = whole.substring(0, place) + whole.substring(behind);
+                fault(text, place);
+                LastTrick x = with(whole);
+                due("behind a game: " + text, Texts.game(x, text), -20 - place);
+            }
+            place += pieces[i].length();
+        }
+        for (int i = 0; i < whole.length(); i++) {
+            fault(whole.substring(0, i) + whole.substring(i + 1), i);
+        }
+        fault("n" + whole.substring(5), 1);
+        fault("n2t" + whole.substring(5), 3);
+        sentence(0, "TRUMP (a SUIT, or none)");
+        LastTrick x = with(whole);
+        due("a game without trump behind one that has it", Texts.game(x, FOUR_CARDS), 4);
+        due("none", x.told(3), NONE);
+        due("a game that is begun by 1", Texts.game(x, "n2t2:s0s1h0h1-f0l0k0b1"), 4);
+        due("one of which it is not known", Texts.game(x, FOUR_CARDS), 4);
+        due("not known", x.told(7), NONE);
+    }
+
     private static void blanks() {
         sentence(0, "FAULTS: -20 less the place of the first byte (blanks do not count) that can't stand there");
         String text = "n2t2:s0s1h0h1+df0l0k0b?";
@@ -370,6 +402,10 @@ public final class BoundsOfTextsTest extends Bounds {
         fault(FOUR_CARDS, "s0s4;h0h1", 3);
         fault(FOUR_CARDS, "s0s/;h0h1", 3);
         fault(FOUR_CARDS, "s0x1;h0h1", 2);
+        // without a rank
+        fault(FOUR_CARDS, "s0s1s;h0h1", 5);
+        fault(FOUR_CARDS, "s0s1;h0h", 8);
+        fault(FOUR_CARDS, "s0s;h0h1", 3);
         sentence(0, "of one that is too many its first byte");
         fault(FOUR_CARDS, "s0s1h0h1d0;", 8);
         fault(FOUR_CARDS, "s0s1;h0h1s0", 9);
