@@ -14,6 +14,7 @@ public final class BoundsOfPlaysTest extends Bounds {
         unlikePlays();
         orderOfHeaps();
         whoLeads();
+        inAnyOrder();
         anew();
         may();
         sure();
@@ -24,6 +25,7 @@ public final class BoundsOfPlaysTest extends Bounds {
         firsts();
         fewest();
         fewestOfFour();
+        fewestByEither();
         turned();
         turnedAlone();
         others();
@@ -40,6 +42,7 @@ public final class BoundsOfPlaysTest extends Bounds {
         due("none", withoutPlay().plays(), 0);
         due("one", with(TWO_CARDS, "s1s0;").plays(), 1);
         due("three tricks in any order", with(FOUR_SUITS, "s0h0d0c0s1h1d1c1s2h2d2c2;;;").plays(), 24 * 24 * 24);
+        due("trumps that are not in it", with("n2t1:h0h1+sf0l0k0b1", "h0h1;").plays(), 1);
         due("suits are followed", with("n4t1:s0h0d0c0-f0l0k1b?", ";s0h0d0c0;;").plays(), 24);
         // chair 0 leads h3, and who plays c0 behind it has no h1: 4 and 4; or it leads c0: 6 and 6
         LastTrick x = with("n3t2:h3c0h0s0h1d0-f0l0k1b0", "h3c0h0s0h1d0;;");
@@ -143,6 +146,21 @@ public final class BoundsOfPlaysTest extends Bounds {
         due("0, then 1 of three", with("n3t2:s0s1s2h0h1h2-f0l1k0b?", "s0s1s2;;h0h1h2").plays(), 1);
         due("0, then 1 of four", with("n4t2:s0s1s2s3h0h1h2h3-f0l1k0b?", "s0s1s2s3;;;h0h1h2h3").plays(), 1);
         due("either of two", with("n2t2:s0s1h0h1-f0l1k0b?", "s0s1;h0h1").plays(), 2);
+    }
+
+    /** Whatever is asked first, all else is answered as ever. */
+    private static void inAnyOrder() {
+        sentence(0, "so that it leaves THE TABLE and all CLUES let it");
+        Call[] questions = {LastTrick::plays, x -> x.may(0), x -> x.sure(0), x -> x.under(0, 0), x -> x.trick(0, 0), x -> x.first(0),
+            x -> x.fewest(-1), LastTrick::drops, LastTrick::turned, x -> x.others(-1), LastTrick::leaves, x -> x.best(0),
+            x -> x.falls(0), x -> x.knows(0, 0)};
+        for (Standing standing : new Standing[] {Standing.TABLE, Standing.ALL, Standing.FULL}) {
+            for (int i = 0; i < questions.length; i++) {
+                LastTrick x = standing.make();
+                questions[i].on(x);
+                due(standing + " behind question " + i, Look.NOW.at(x).equals(Look.NOW.at(standing.make())) ? 1 : 0, 1);
+            }
+        }
     }
 
     /** What was asked before a change is asked anew behind it. */
@@ -389,6 +407,35 @@ public final class BoundsOfPlaysTest extends Bounds {
             x.set(3, "shdc".indexOf(names.charAt(3)));
             x.set(4, 2);
             due("a trump that nobody has", x.fewest(-1), 2);
+        }
+    }
+
+    private static void fewestByEither() {
+        sentence(17, "FEWEST; with a CHAIR (-1: any) that makes no BREACH");
+        for (String names : namesOfSuits()) {
+            for (int begins = 0; begins < 4; begins++) {
+                String ahead = ";".repeat(begins);
+                String behind = ";".repeat(3 - begins);
+                // either the second kept d0, and did not follow once, or the third, and did not follow twice
+                LastTrick x = with(Texts.renamed("n4t3:d3d1h0s0d2h2h1s1c3d0c1c0-f0l0k0b" + begins, names),
+                    ahead + Texts.renamed("d3d1h0s0d2h2h1s1c3??c0", names) + behind);
+                for (int chair = -1; chair < 4; chair++) {
+                    due("but for " + chair, x.fewest(chair), chair == (begins + 1) % 4 ? 2 : 1);
+                }
+                // any but the first kept d0
+                x = with(Texts.renamed("n4t3:d3h0s0h1d2h2s1h3c3d0c0c1-f0l0k0b" + begins, names),
+                    ahead + Texts.renamed("d3h0s0h1d2h2s1h3c3???", names) + behind);
+                for (int chair = -1; chair < 4; chair++) {
+                    due("but for " + chair, x.fewest(chair), 2);
+                }
+            }
+            // by the clues either 0 kept d0, or 1 kept s0, or both
+            LastTrick x = with(Texts.renamed("n2t3:s0s1h1d0d1c0-f0l1k0b0", names), Texts.renamed("s1???;d1h1", names));
+            x.clue(3, 0, "shdc".indexOf(names.charAt(0)), 2);
+            x.clue(3, 1, "shdc".indexOf(names.charAt(2)), 2);
+            for (int chair = -1; chair < 2; chair++) {
+                due("but for " + chair, x.fewest(chair), 1);
+            }
         }
     }
 

@@ -319,6 +319,22 @@ public final class BoundsOfRowsTest extends Bounds {
         for (int place = 0; place <= 8; place++) {
             due("none, from " + place, x.best(place), 0);
         }
+        // of a new row it is asked anew, at its last places too
+        x = with("n2t4:s0s1s2s3h0h1h2h3-f0l0k0b?");
+        for (int begins = 0; begins < 2; begins++) {
+            due("row", Texts.row(x, begins, "s0h0s1h1s2h2s3h3"), NONE);
+            for (int place = 0; place <= 8; place++) {
+                due("begun by " + begins + ", from " + place, x.best(place), begins == 0 ? (9 - place) / 2 : 0);
+            }
+        }
+        x = with(FOUR_CHAIRS);
+        for (int begins = 0; begins < 4; begins++) {
+            due("row", Texts.row(x, begins, TWELVE), NONE);
+            // the last trick is led by who is two behind the first, and won by the last of it
+            for (int place = 8; place < 12; place++) {
+                due("begun by " + begins + ", from " + place, x.best(place), (begins + 1) % 2 == 0 ? 1 : 0);
+            }
+        }
         sentence(0, "SIDES: CHAIRS 0 and 2, and CHAIRS 1 and 3.");
         for (int winner = 0; winner < 4; winner++) {
             x = told("n4t1:s0s1s2s3-f0l0k0b?", winner, "s3s0s1s2");
