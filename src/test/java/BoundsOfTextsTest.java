@@ -36,7 +36,7 @@ public final class BoundsOfTextsTest extends Bounds {
         }
         sentence(0, "An object is used for at most 512 calls after it has been made");
         x = with(FOUR_CARDS, "s1s0;h0h1");
-        for (int calls = 6; calls < 511; calls++) {
+        for (int calls = 7; calls < 511; calls++) {
             due("plays", x.plays(), 1);
         }
         due("call 512", x.first(3), 5);
