@@ -878,7 +878,8 @@ public final class LastTrick {
             }
             int top = so >> 2 & 15;
             boolean beats = card >> 2 == top >> 2 ? card > top : card >> 2 == trump;
-            return beats ? chair << 6 | card << 2 | suitOf(so) : so;
+            // not by suitOf: calls would go deeper than eight
+            return beats ? chair << 6 | card << 2 | so & 3 : so;
         }
 
         static int suitOf(int so) {
@@ -1514,14 +1515,15 @@ public final class LastTrick {
                 int sum = breached + Integer.bitCount(wrong);
                 int holds = suits | of.suits[i];
                 int breaks = broken | of.broken[i] | clues.againstTrick(k, lead, of.cards, later, holds);
-                if (!promises(sum, by | wrong, breaks)) {
+                int price = aim == DROPPED ? rankOf(breaks) : sum;
+                if (!promises(price, by | wrong, breaks)) {
                     continue;
                 }
                 path[k] = number * MOST_WAYS + i;
                 if (k == 0 && aim == ALL) {
                     notePlay(lead);
                 } else if (k == 0) {
-                    noteLess(sum, by | wrong, breaks);
+                    noteLess(price, by | wrong);
                 } else {
                     later |= of.cards;
                     lay(k - 1, rules.leads == 0 ? lead : rules.previous(lead), holds, sum, by | wrong, breaks);
@@ -1546,19 +1548,19 @@ public final class LastTrick {
             return k == 0 || left[lead] > 0;
         }
 
-        /** Whether what is laid so far could still become something that is looked for. */
-        private boolean promises(int breached, int by, int broken) {
+        /** Whether what is laid so far, at a price, could still become something that is looked for. */
+        private boolean promises(int price, int by, int broken) {
             if (aim == DROPPED) {
-                return rankOf(broken) < rank;
+                return price < rank;
             }
             if (broken != 0) {
                 return false;
             }
-            if (aim == ALL || breached < breaches[0]) {
+            if (aim == ALL || price < breaches[0]) {
                 return true;
             }
             for (int chair = 0; chair < rules.chairs; chair++) {
-                if ((by >> 4 * chair & 1) == 0 && breached < breaches[chair + 1]) {
+                if ((by >> 4 * chair & 1) == 0 && price < breaches[chair + 1]) {
                     return true;
                 }
             }
@@ -1569,15 +1571,15 @@ public final class LastTrick {
             return 64 * Integer.bitCount(broken) + broken;
         }
 
-        private void noteLess(int breached, int by, int broken) {
+        private void noteLess(int price, int by) {
             if (aim == DROPPED) {
-                rank = rankOf(broken);
+                rank = price;
                 return;
             }
-            breaches[0] = Math.min(breaches[0], breached);
+            breaches[0] = Math.min(breaches[0], price);
             for (int chair = 0; chair < rules.chairs; chair++) {
                 if ((by >> 4 * chair & 1) == 0) {
-                    breaches[chair + 1] = Math.min(breaches[chair + 1], breached);
+                    breaches[chair + 1] = Math.min(breaches[chair + 1], price);
                 }
             }
         }

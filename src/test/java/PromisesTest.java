@@ -373,7 +373,7 @@ public final class PromisesTest {
         letPlays();
     }
 
-    /** Both players hold what suits them: six plays by free laws, less by each clue. */
+    /** Two plays by free laws, which differ in the trick that came first; each clue lets both, one or none. */
     private static void letPlays() {
         String free = "n2t2:s0s1h0h1-f1l1k1b0";
         LastTrick x = with(free, "s0s1;h0h1");
